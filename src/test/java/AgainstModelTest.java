@@ -1,0 +1,248 @@
+import java.util.ArrayList;
+import java.util.Arrays;
+import java.util.List;
+import java.util.Random;
+
+/** Runs of random calls, the same ones each time, on the class and on the plain model; every answer must be the same. */
+public final class AgainstModelTest {
+    private static final int RUNS = 1500;
+    private static final int CALLS = 120;
+    /** Calls that the model works at for long, so that they come seldom. */
+    private static final List<String> SLOW = List.of("extra", "spots", "ask", "kerns", "odds");
+    private static final String[] NAMES = {"type", "clear", "tells", "drives", "loses", "mends", "loads", "moves",
+        "winds", "undo", "pile", "column", "sum", "sharing", "share", "press", "most", "factor", "kern", "kerns",
+        "without", "key", "extra", "odds", "hunts", "sees", "forget", "spots", "ask", "keep", "back", "count"};
+
+    private final Random random;
+    private final PileShares got = new PileShares();
+    private final PlainModel want = new PlainModel();
+    private final List<String> calls = new ArrayList<>();
+    /** How far from the middle piles are, in this run. */
+    private final int span;
+
+    private AgainstModelTest(long seed) {
+        random = new Random(seed);
+        span = 2 + random.nextInt(8);
+    }
+
+    public static void main(String[] args) {
+        int first = args.length > 0 ? Integer.parseInt(args[0]) : 0;
+        int runs = args.length > 1 ? Integer.parseInt(args[1]) : RUNS;
+        int wrong = 0;
+        for (int seed = first; seed < first + runs && wrong < 5; seed++) {
+            AgainstModelTest test = new AgainstModelTest(seed);
+            if (!test.run()) {
+                wrong++;
+                System.out.println("seed " + seed + ": " + String.join(" ", test.calls));
+            }
+        }
+        System.out.println(wrong == 0 ? "as the model: " + runs + " runs" : "not as the model");
+        if (wrong != 0) {
+            System.exit(1);
+        }
+    }
+
+    private boolean run() {
+        if (random.nextInt(8) > 0 && !tellsText(goodText())) {
+            return false;
+        }
+        for (int i = 0; i < CALLS; i++) {
+            if (random.nextInt(40) == 0) {
+                String text = random.nextBoolean() ? goodText() : spoilt(goodText());
+                if (!tellsText(text)) {
+                    return false;
+                }
+            }
+            String name = NAMES[random.nextInt(NAMES.length)];
+            if (SLOW.contains(name) && random.nextInt(6) > 0) {
+                continue;
+            }
+            if (!same(name, argumentsOf(name))) {
+                return false;
+            }
+        }
+        return true;
+    }
+
+    private boolean tellsText(String text) {
+        if (random.nextInt(3) > 0 && !same("clear")) {
+            return false;
+        }
+        for (char letter : text.toCharArray()) {
+            if (!same("type", letter)) {
+                return false;
+            }
+        }
+        return same("tells");
+    }
+
+    private String goodText() {
+        StringBuilder text = new StringBuilder();
+        int items = random.nextInt(14);
+        boolean wind = false;
+        for (int i = 0; i < items; i++) {
+            int kind = random.nextInt(8);
+            if (kind < 5) {
+                text.append("p").append(blanks()).append(near()).append(" ").append(blanks()).append(near());
+                text.append(" ").append(1 + random.nextInt(9)).append(" ").append(1 + random.nextInt(99));
+            } else if (kind < 7 || wind) {
+                text.append("c").append(near()).append(" ").append(near()).append(" ").append(random.nextInt(100));
+            } else {
+                wind = true;
+                text.append("w ").append(random.nextInt(199)).append(" ").append(random.nextInt(199));
+            }
+            text.append(blanks()).append(";").append(blanks());
+        }
+        return text.toString();
+    }
+
+    private int near() {
+        return 9 + random.nextInt(2 * span + 1) - span;
+    }
+
+    private String blanks() {
+        return random.nextInt(12) == 0 ? "  " : "";
+    }
+
+    private String spoilt(String text) {
+        StringBuilder spoilt = new StringBuilder(text);
+        String letters = "pcw; 0189x";
+        int at = random.nextInt(text.length() + 1);
+        char letter = random.nextInt(8) == 0 ? (char) random.nextInt(256)
+                : letters.charAt(random.nextInt(letters.length()));
+        switch (random.nextInt(4)) {
+            case 0 -> spoilt.insert(at, letter);
+            case 1 -> spoilt.setLength(at);
+            case 2 -> spoilt.insert(at, "w5 5;");
+            default -> {
+                if (at < text.length()) {
+                    spoilt.setCharAt(at, letter);
+                }
+            }
+        }
+        return spoilt.toString();
+    }
+
+    private int[] argumentsOf(String name) {
+        int[] args = switch (name) {
+            case "type" -> ints(random.nextInt(256));
+            case "drives" -> ints(off(span), off(span), 1 + random.nextInt(9), 1 + random.nextInt(99));
+            case "loses", "mends" -> ints(random.nextInt(8));
+            case "loads" -> ints(random.nextInt(5), random.nextInt(100));
+            case "moves" -> ints(random.nextInt(5), off(span), off(span));
+            case "winds" -> ints(off(99), off(99));
+            case "pile" -> ints(random.nextInt(8), random.nextInt(6));
+            case "column" -> ints(random.nextInt(5), random.nextInt(3));
+            case "sum" -> ints(random.nextInt(5));
+            case "share", "without" -> ints(random.nextInt(8), random.nextInt(3));
+            case "press" -> ints(off(9), off(9), random.nextInt(2));
+            case "sharing", "most" -> ints(random.nextInt(3));
+            case "factor", "kerns", "spots", "keep", "back" -> ints(random.nextInt(2));
+            case "kern" -> ints(off(span), off(span));
+            case "extra" -> ints(1 + random.nextInt(9), 1 + random.nextInt(99));
+            case "odds" -> ints(random.nextInt(11), random.nextInt(2));
+            case "hunts" -> ints(1 + random.nextInt(99));
+            case "sees" -> ints(random.nextInt(8), random.nextInt(random.nextBoolean() ? 5 : 40));
+            case "count" -> ints(random.nextInt(7));
+            default -> ints();
+        };
+        if (args.length > 0 && random.nextInt(15) == 0) {
+            int[] odd = {-1, -10, 10, -100, 100, 256, 1000, 11, 3, 2, 6, 7, 8, 0, Integer.MIN_VALUE, Integer.MAX_VALUE};
+            args[random.nextInt(args.length)] = odd[random.nextInt(odd.length)];
+        }
+        return args;
+    }
+
+    private int off(int far) {
+        return random.nextInt(2 * far + 1) - far;
+    }
+
+    private static int[] ints(int... args) {
+        return args;
+    }
+
+    private boolean same(String name, int... args) {
+        long due = answerOfModel(name, args);
+        long answer = answerOfClass(name, args);
+        String list = Arrays.toString(args);
+        calls.add(name + "(" + list.substring(1, list.length() - 1) + ")=" + answer);
+        if (answer != due) {
+            calls.add("due is " + due);
+        }
+        return answer == due;
+    }
+
+    private long answerOfClass(String name, int[] a) {
+        return switch (name) {
+            case "type" -> got.type(a[0]);
+            case "clear" -> got.clear();
+            case "tells" -> got.tells();
+            case "drives" -> got.drives(a[0], a[1], a[2], a[3]);
+            case "loses" -> got.loses(a[0]);
+            case "mends" -> got.mends(a[0]);
+            case "loads" -> got.loads(a[0], a[1]);
+            case "moves" -> got.moves(a[0], a[1], a[2]);
+            case "winds" -> got.winds(a[0], a[1]);
+            case "undo" -> got.undo();
+            case "pile" -> got.pile(a[0], a[1]);
+            case "column" -> got.column(a[0], a[1]);
+            case "sum" -> got.sum(a[0]);
+            case "sharing" -> got.sharing(a[0]);
+            case "share" -> got.share(a[0], a[1]);
+            case "press" -> got.press(a[0], a[1], a[2]);
+            case "most" -> got.most(a[0]);
+            case "factor" -> got.factor(a[0]);
+            case "kern" -> got.kern(a[0], a[1]);
+            case "kerns" -> got.kerns(a[0]);
+            case "without" -> got.without(a[0], a[1]);
+            case "key" -> got.key();
+            case "extra" -> got.extra(a[0], a[1]);
+            case "odds" -> got.odds(a[0], a[1]);
+            case "hunts" -> got.hunts(a[0]);
+            case "sees" -> got.sees(a[0], a[1]);
+            case "forget" -> got.forget();
+            case "spots" -> got.spots(a[0]);
+            case "ask" -> got.ask();
+            case "keep" -> got.keep(a[0]);
+            case "back" -> got.back(a[0]);
+            default -> got.count(a[0]);
+        };
+    }
+
+    private long answerOfModel(String name, int[] a) {
+        return switch (name) {
+            case "type" -> want.type(a[0]);
+            case "clear" -> want.clear();
+            case "tells" -> want.tells();
+            case "drives" -> want.drives(a[0], a[1], a[2], a[3]);
+            case "loses" -> want.loses(a[0]);
+            case "mends" -> want.mends(a[0]);
+            case "loads" -> want.loads(a[0], a[1]);
+            case "moves" -> want.moves(a[0], a[1], a[2]);
+            case "winds" -> want.winds(a[0], a[1]);
+            case "undo" -> want.undo();
+            case "pile" -> want.pile(a[0], a[1]);
+            case "column" -> want.column(a[0], a[1]);
+            case "sum" -> want.sum(a[0]);
+            case "sharing" -> want.sharing(a[0]);
+            case "share" -> want.share(a[0], a[1]);
+            case "press" -> want.press(a[0], a[1], a[2]);
+            case "most" -> want.most(a[0]);
+            case "factor" -> want.factor(a[0]);
+            case "kern" -> want.kern(a[0], a[1]);
+            case "kerns" -> want.kerns(a[0]);
+            case "without" -> want.without(a[0], a[1]);
+            case "key" -> want.key();
+            case "extra" -> want.extra(a[0], a[1]);
+            case "odds" -> want.odds(a[0], a[1]);
+            case "hunts" -> want.hunts(a[0]);
+            case "sees" -> want.sees(a[0], a[1]);
+            case "forget" -> want.forget();
+            case "spots" -> want.spots(a[0]);
+            case "ask" -> want.ask();
+            case "keep" -> want.keep(a[0]);
+            case "back" -> want.back(a[0]);
+            default -> want.count(a[0]);
+        };
+    }
+}
