@@ -60,7 +60,7 @@ public final class PileShares {
         if (items < 0) {
             return items;
         }
-        now.copyFrom(told);
+        Structure.copy(told, now);
         script.length = 0;
         recorded = 0;
         unknown = FIRST_UNKNOWN;
@@ -156,7 +156,7 @@ public final class PileShares {
             return STATE;
         }
         recorded--;
-        now.copyFrom(past[recorded]);
+        Structure.copy(past[recorded], now);
         return recorded;
     }
 
@@ -455,7 +455,7 @@ public final class PileShares {
         if (image < 0 || image >= IMAGES) {
             return BAD;
         }
-        images[image].copyFrom(now);
+        Structure.copy(now, images[image]);
         kept[image] = true;
         return now.piles;
     }
@@ -467,7 +467,7 @@ public final class PileShares {
         if (!kept[image]) {
             return STATE;
         }
-        now.copyFrom(images[image]);
+        Structure.copy(images[image], now);
         recorded = 0;
         return now.piles;
     }
@@ -531,7 +531,7 @@ public final class PileShares {
             past[ACTIONS - 1] = oldest;
             recorded = ACTIONS - 1;
         }
-        past[recorded].copyFrom(now);
+        Structure.copy(now, past[recorded]);
         recorded++;
     }
 
@@ -689,22 +689,22 @@ public final class PileShares {
             windY = 0;
         }
 
-        void copyFrom(Structure other) {
-            if (other == null) {
+        static void copy(Structure from, Structure to) {
+            if (from == null || to == null) {
                 return;
             }
-            System.arraycopy(other.x, 0, x, 0, PILES);
-            System.arraycopy(other.y, 0, y, 0, PILES);
-            System.arraycopy(other.stiff, 0, stiff, 0, PILES);
-            System.arraycopy(other.can, 0, can, 0, PILES);
-            piles = other.piles;
-            intact = other.intact;
-            System.arraycopy(other.columnX, 0, columnX, 0, COLUMNS);
-            System.arraycopy(other.columnY, 0, columnY, 0, COLUMNS);
-            System.arraycopy(other.load, 0, load, 0, COLUMNS);
-            columns = other.columns;
-            windX = other.windX;
-            windY = other.windY;
+            System.arraycopy(from.x, 0, to.x, 0, PILES);
+            System.arraycopy(from.y, 0, to.y, 0, PILES);
+            System.arraycopy(from.stiff, 0, to.stiff, 0, PILES);
+            System.arraycopy(from.can, 0, to.can, 0, PILES);
+            to.piles = from.piles;
+            to.intact = from.intact;
+            System.arraycopy(from.columnX, 0, to.columnX, 0, COLUMNS);
+            System.arraycopy(from.columnY, 0, to.columnY, 0, COLUMNS);
+            System.arraycopy(from.load, 0, to.load, 0, COLUMNS);
+            to.columns = from.columns;
+            to.windX = from.windX;
+            to.windY = from.windY;
         }
 
         boolean hasPileAt(int placeX, int placeY) {
@@ -1063,8 +1063,8 @@ public final class PileShares {
             settled = false;
             rounds = 0;
             boolean goesOn = true;
-            while (goesOn && rounds < ROUNDS) {
-                rounds++;
+            for (int round = 1; round <= ROUNDS && goesOn; round++) {
+                rounds = round;
                 goesOn = anotherRoundFollows();
             }
             if (settled) {
