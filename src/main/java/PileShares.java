@@ -775,7 +775,10 @@ public final class PileShares {
         private int length;
         /** While it is read: where the next token is looked for; where one cannot stand, its first character. */
         private int at;
+        /** Where the number that was read last begins. */
         private int numberStart;
+        private int placeX;
+        private int placeY;
         private boolean windTold;
 
         boolean append(int letter) {
@@ -819,15 +822,10 @@ public final class PileShares {
 
         private boolean readPile(Structure told) {
             at++;
-            int x = readNumber(0, SIDE - 1);
-            if (x == NO_NUMBER) {
+            if (!readPlace()) {
                 return false;
             }
-            int y = readNumber(0, SIDE - 1);
-            if (y == NO_NUMBER) {
-                return false;
-            }
-            if (told.hasPileAt(x - EDGE, y - EDGE)) {
+            if (told.hasPileAt(placeX, placeY)) {
                 at = numberStart;
                 return false;
             }
@@ -839,25 +837,34 @@ public final class PileShares {
             if (can == NO_NUMBER || !readSemicolon()) {
                 return false;
             }
-            told.addPile(x - EDGE, y - EDGE, stiff, can);
+            told.addPile(placeX, placeY, stiff, can);
             return true;
         }
 
         private boolean readColumn(Structure told) {
             at++;
-            int x = readNumber(0, SIDE - 1);
-            if (x == NO_NUMBER) {
-                return false;
-            }
-            int y = readNumber(0, SIDE - 1);
-            if (y == NO_NUMBER) {
+            if (!readPlace()) {
                 return false;
             }
             int weight = readNumber(0, MOST_LOAD);
             if (weight == NO_NUMBER || !readSemicolon()) {
                 return false;
             }
-            told.addColumn(x - EDGE, y - EDGE, weight);
+            told.addColumn(placeX, placeY, weight);
+            return true;
+        }
+
+        private boolean readPlace() {
+            int first = readNumber(0, SIDE - 1);
+            if (first == NO_NUMBER) {
+                return false;
+            }
+            int second = readNumber(0, SIDE - 1);
+            if (second == NO_NUMBER) {
+                return false;
+            }
+            placeX = first - EDGE;
+            placeY = second - EDGE;
             return true;
         }
 

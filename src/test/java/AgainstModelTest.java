@@ -196,8 +196,8 @@ public final class AgainstModelTest {
     }
 
     private boolean same(String name, int... args) {
-        long due = answerOfModel(name, args);
-        long answer = answerOfClass(name, args);
+        long due = answer(want, name, args);
+        long answer = answer(got, name, args);
         String list = Arrays.toString(args);
         if (name.equals("share") && due != PileShares.NO) {
             asked++;
@@ -210,77 +210,17 @@ public final class AgainstModelTest {
         return answer == due;
     }
 
-    private long answerOfClass(String name, int[] a) {
-        return switch (name) {
-            case "type" -> got.type(a[0]);
-            case "clear" -> got.clear();
-            case "tells" -> got.tells();
-            case "drives" -> got.drives(a[0], a[1], a[2], a[3]);
-            case "loses" -> got.loses(a[0]);
-            case "mends" -> got.mends(a[0]);
-            case "loads" -> got.loads(a[0], a[1]);
-            case "moves" -> got.moves(a[0], a[1], a[2]);
-            case "winds" -> got.winds(a[0], a[1]);
-            case "undo" -> got.undo();
-            case "pile" -> got.pile(a[0], a[1]);
-            case "column" -> got.column(a[0], a[1]);
-            case "sum" -> got.sum(a[0]);
-            case "sharing" -> got.sharing(a[0]);
-            case "share" -> got.share(a[0], a[1]);
-            case "press" -> got.press(a[0], a[1], a[2]);
-            case "most" -> got.most(a[0]);
-            case "factor" -> got.factor(a[0]);
-            case "kern" -> got.kern(a[0], a[1]);
-            case "kerns" -> got.kerns(a[0]);
-            case "without" -> got.without(a[0], a[1]);
-            case "key" -> got.key();
-            case "extra" -> got.extra(a[0], a[1]);
-            case "odds" -> got.odds(a[0], a[1]);
-            case "hunts" -> got.hunts(a[0]);
-            case "sees" -> got.sees(a[0], a[1]);
-            case "forget" -> got.forget();
-            case "spots" -> got.spots(a[0]);
-            case "ask" -> got.ask();
-            case "keep" -> got.keep(a[0]);
-            case "back" -> got.back(a[0]);
-            default -> got.count(a[0]);
-        };
-    }
-
-    private long answerOfModel(String name, int[] a) {
-        return switch (name) {
-            case "type" -> want.type(a[0]);
-            case "clear" -> want.clear();
-            case "tells" -> want.tells();
-            case "drives" -> want.drives(a[0], a[1], a[2], a[3]);
-            case "loses" -> want.loses(a[0]);
-            case "mends" -> want.mends(a[0]);
-            case "loads" -> want.loads(a[0], a[1]);
-            case "moves" -> want.moves(a[0], a[1], a[2]);
-            case "winds" -> want.winds(a[0], a[1]);
-            case "undo" -> want.undo();
-            case "pile" -> want.pile(a[0], a[1]);
-            case "column" -> want.column(a[0], a[1]);
-            case "sum" -> want.sum(a[0]);
-            case "sharing" -> want.sharing(a[0]);
-            case "share" -> want.share(a[0], a[1]);
-            case "press" -> want.press(a[0], a[1], a[2]);
-            case "most" -> want.most(a[0]);
-            case "factor" -> want.factor(a[0]);
-            case "kern" -> want.kern(a[0], a[1]);
-            case "kerns" -> want.kerns(a[0]);
-            case "without" -> want.without(a[0], a[1]);
-            case "key" -> want.key();
-            case "extra" -> want.extra(a[0], a[1]);
-            case "odds" -> want.odds(a[0], a[1]);
-            case "hunts" -> want.hunts(a[0]);
-            case "sees" -> want.sees(a[0], a[1]);
-            case "forget" -> want.forget();
-            case "spots" -> want.spots(a[0]);
-            case "ask" -> want.ask();
-            case "keep" -> want.keep(a[0]);
-            case "back" -> want.back(a[0]);
-            default -> want.count(a[0]);
-        };
+    private static long answer(Object asked, String name, int[] args) {
+        Class<?>[] types = new Class<?>[args.length];
+        Object[] values = new Object[args.length];
+        for (int i = 0; i < args.length; i++) {
+            types[i] = int.class;
+            values[i] = args[i];
+        }
+        try {
+            return ((Number) asked.getClass().getDeclaredMethod(name, types).invoke(asked, values)).longValue();
+        } catch (ReflectiveOperationException e) {
+            throw new IllegalStateException(name + Arrays.toString(args), e);
+        }
     }
 }

@@ -934,10 +934,17 @@ public final class PromisesTest {
         due(30, "ask() where each share is known, the first pile being lost", cap.ask(), 1);
         cap.loses(1);
         due(30, "ask() of two piles", cap.ask(), NONE);
-        // of three piles the one far away tells only rows, each of two places or more; the others tell more
-        PileShares three = cap("p9 9 1 9;p18 9 1 9;p9 10 1 9;");
+        PileShares corner = cap("p0 0 1 9;p0 1 1 9;p1 0 1 9;");
+        corner.sees(2, 0);
+        due(30, "spots(0) at the first two places", corner.spots(0), 2);
+        due(30, "ask() of the first two places", corner.ask(), 0);
+        corner = cap("p18 18 1 9;p18 17 1 9;p17 18 1 9;");
+        corner.sees(2, 0);
+        due(30, "ask() of the last two places", corner.ask(), 0);
+        // 11 spots: the pile at (0, 1) has one of them, the other two tell all but two apart
+        PileShares three = cap("p9 10 1 9;p9 9 1 9;p18 9 1 9;");
         three.hunts(99);
-        due(30, "ask() of a long triangle", three.ask(), 0);
+        due(30, "ask() of a long triangle", three.ask(), 1);
     }
 
     private static void keepAndBack() {
