@@ -1,5 +1,4 @@
 import java.util.ArrayList;
-import java.util.Arrays;
 import java.util.HashSet;
 import java.util.List;
 import java.util.Random;
@@ -196,31 +195,16 @@ public final class AgainstModelTest {
     }
 
     private boolean same(String name, int... args) {
-        long due = answer(want, name, args);
-        long answer = answer(got, name, args);
-        String list = Arrays.toString(args);
+        long due = Calls.answer(want, name, args);
+        long answer = Calls.answer(got, name, args);
         if (name.equals("share") && due != PileShares.NO) {
             asked++;
             settled += due == PileShares.NOT ? 0 : 1;
         }
-        calls.add(name + "(" + list.substring(1, list.length() - 1) + ")=" + answer);
+        calls.add(Calls.text(name, args) + "=" + answer);
         if (answer != due) {
             calls.add("due is " + due);
         }
         return answer == due;
-    }
-
-    private static long answer(Object asked, String name, int[] args) {
-        Class<?>[] types = new Class<?>[args.length];
-        Object[] values = new Object[args.length];
-        for (int i = 0; i < args.length; i++) {
-            types[i] = int.class;
-            values[i] = args[i];
-        }
-        try {
-            return ((Number) asked.getClass().getDeclaredMethod(name, types).invoke(asked, values)).longValue();
-        } catch (ReflectiveOperationException e) {
-            throw new IllegalStateException(name + Arrays.toString(args), e);
-        }
     }
 }
