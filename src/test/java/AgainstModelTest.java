@@ -3,6 +3,8 @@ import java.util.HashSet;
 import java.util.List;
 import java.util.Random;
 import java.util.Set;
+import java.util.concurrent.atomic.AtomicInteger;
+import java.util.stream.IntStream;
 
 /** Runs of random calls, the same ones each time, on the class and on the plain model; every answer must be the same. */
 public final class AgainstModelTest {
@@ -19,8 +21,21 @@ public final class AgainstModelTest {
     private final PileShares got = new PileShares();
     private final PlainModel want = new PlainModel();
     private final List<String> calls = new ArrayList<>();
-    private static int settled = 0;
-    private static int asked = 0;
+    /** Structures with many rounds, and such whose rounds never end; random ones are hardly ever like them. */
+    private static final String[] HARD = {
+        "p14 18 3 10;p10 13 3 10;p6 12 3 10;p3 12 1 10;p15 2 2 10;p10 11 2 10;c5 12 9;",
+        "p11 7 5 20;p15 2 5 9;p17 15 9 9;p8 10 1 9;p0 12 7 9;p14 3 7 30;c14 3 50;",
+        "p0 16 9 9;p10 14 6 20;p15 18 5 9;p12 0 5 9;p16 18 2 9;p4 18 2 9;c15 18 7;",
+        "p10 14 1 9;p17 14 9 9;p13 11 9 40;p0 10 4 9;p14 11 3 9;p15 5 8 9;p16 5 1 9;c15 6 30;",
+        "p18 16 1 9;p9 14 2 9;p3 9 1 9;p7 13 1 9;p7 14 1 9;p0 17 2 9;p6 14 2 9;c4 10 60;",
+        "p6 2 7 9;p6 10 9 9;p5 16 1 9;p4 6 6 9;p18 5 3 9;p6 15 3 9;p2 10 5 9;p0 0 7 9;c5 15 22;w109 96;",
+        "p12 3 7 9;p0 1 4 9;p14 4 6 9;p5 14 3 9;p14 3 1 9;p10 13 8 9;p4 12 3 9;p17 2 2 9;c16 2 94;w90 135;",
+        "p11 12 1 9;p17 17 7 9;p0 18 6 9;p10 13 9 9;p12 11 8 9;p13 9 7 9;p15 1 1 9;p18 18 1 9;c17 17 6;",
+        "p12 12 1 90;p12 6 2 15;p8 11 2 2;p9 11 1 1;p6 10 2 8;c11 12 12;",
+        "p12 12 1 9;p12 6 2 9;p8 11 2 9;p9 11 1 9;p6 10 2 9;p6 12 2 9;c11 12 6;"};
+    private static final AtomicInteger SETTLED = new AtomicInteger();
+    private static final AtomicInteger UNSTABLE = new AtomicInteger();
+    private static final AtomicInteger ENDLESS = new AtomicInteger();
     /** How far from the middle piles are, in this run. */
     private final int span;
 
@@ -32,23 +47,27 @@ public final class AgainstModelTest {
     public static void main(String[] args) {
         int first = args.length > 0 ? Integer.parseInt(args[0]) : 0;
         int runs = args.length > 1 ? Integer.parseInt(args[1]) : RUNS;
-        int wrong = 0;
-        for (int seed = first; seed < first + runs && wrong < 5; seed++) {
-            AgainstModelTest test = new AgainstModelTest(seed);
-            if (!test.run()) {
-                wrong++;
-                System.out.println("seed " + seed + ": " + String.join(" ", test.calls));
-            }
-        }
-        System.out.println(wrong == 0 ? "as the model: " + runs + " runs" : "not as the model");
-        System.out.println("of " + asked + " shares " + settled + " were settled");
-        if (wrong != 0) {
+        boolean same = IntStream.range(first, first + runs).parallel().allMatch(AgainstModelTest::isSame);
+        System.out.println(same ? "as the model: " + runs + " runs" : "not as the model");
+        System.out.println(SETTLED + " distributions that were asked for were settled, " + UNSTABLE + " came to an unstable set, "
+                + ENDLESS + " did not end");
+        if (!same) {
             System.exit(1);
         }
     }
 
+    private static boolean isSame(int seed) {
+        AgainstModelTest test = new AgainstModelTest(seed);
+        boolean same = test.run();
+        if (!same) {
+            System.out.println("seed " + seed + ": " + String.join(" ", test.calls));
+        }
+        return same;
+    }
+
     private boolean run() {
-        if (random.nextInt(12) > 0 && !tellsText(goodText())) {
+        int start = random.nextInt(12);
+        if (start > 0 && !tellsText(start < 4 ? HARD[random.nextInt(HARD.length)] : goodText())) {
             return false;
         }
         for (int i = 0; i < CALLS; i++) {
@@ -197,9 +216,9 @@ public final class AgainstModelTest {
     private boolean same(String name, int... args) {
         long due = Calls.answer(want, name, args);
         long answer = Calls.answer(got, name, args);
-        if (name.equals("share") && due != PileShares.NO) {
-            asked++;
-            settled += due == PileShares.NOT ? 0 : 1;
+        if (name.equals("sharing") && due != PileShares.BAD && args[0] == 0) {
+            boolean isSettled = got.sharing(1) == 1;
+            (isSettled ? SETTLED : due == 40 ? ENDLESS : UNSTABLE).incrementAndGet();
         }
         calls.add(Calls.text(name, args) + "=" + answer);
         if (answer != due) {

@@ -2,10 +2,11 @@ import java.lang.reflect.Method;
 import java.util.Arrays;
 import java.util.HashMap;
 import java.util.Map;
+import java.util.concurrent.ConcurrentHashMap;
 
 /** Calls of a method by its name, on the class or on the plain model. */
 final class Calls {
-    private static final Map<Class<?>, Map<String, Method>> METHODS = new HashMap<>();
+    private static final Map<Class<?>, Map<String, Method>> METHODS = new ConcurrentHashMap<>();
 
     private Calls() { }
 
