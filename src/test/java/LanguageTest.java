@@ -131,6 +131,11 @@ public final class LanguageTest {
         }
         rule(3, source.chars().allMatch(c -> c == 10 || c >= 32 && c < 127), "a sign that is none of 32 to 126");
         rule(0, !code.contains("package "), "has a package line");
+        // all calls of a run live in one room, so that only an object's making makes others
+        for (String line : code.split("\n")) {
+            boolean made = line.contains("new ");
+            rule(12, !made || line.matches(" +private final .* = new .*|            (past|images)\\[i\\] = new .*"), "makes" + line);
+        }
     }
 
     /** By the layout: a method is opened with 4 or 8 blanks before it, and closed with as many. */

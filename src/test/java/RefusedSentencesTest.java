@@ -31,6 +31,7 @@ public final class RefusedSentencesTest {
     private RefusedSentencesTest() { }
 
     public static void main(String[] args) {
+        constants();
         bad();
         state();
         full();
@@ -57,6 +58,28 @@ public final class RefusedSentencesTest {
         for (String call : calls) {
             Scenes.unchanged(scene, Scenes.all().get(scene), call, want);
         }
+    }
+
+    /** Read from the class as it runs: the compiler writes a constant into what uses it. */
+    private static void constant(String name, long want) {
+        try {
+            Sentences.due(name, PileShares.class.getField(name).getLong(null), want);
+        } catch (ReflectiveOperationException e) {
+            Sentences.wrong("there is no constant " + name);
+        }
+    }
+
+    private static void constants() {
+        in("public static final int BAD = -1, STATE = -2, FULL = -3, NONE = -9;", () -> {
+            constant("BAD", -1);
+            constant("STATE", -2);
+            constant("FULL", -3);
+            constant("NONE", -9);
+        });
+        in("`NO = -1000000000000000000L, NOT = -2000000000000000000L`", () -> {
+            constant("NO", -1000000000000000000L);
+            constant("NOT", -2000000000000000000L);
+        });
     }
 
     private static void bad() {

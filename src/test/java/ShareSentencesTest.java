@@ -156,6 +156,8 @@ public final class ShareSentencesTest {
                     "sharing(0) = 3; sharing(1) = 1; sharing(2) = 3; press(1, -1, 0) = 0; press(-1, 2, 0) = 5; pile(1, 5) = 0");
             says("p6 7 1 9;p13 7 2 9;p13 5 3 9;p13 13 2 9;p5 6 1 9;p11 9 2 9;p13 11 1 9;c13 6 2;",
                     "sharing(0) = 5; sharing(2) = 17");
+            // of all fractions with the denominator of that round, the least one above 0
+            says("p7 10 1 9;p9 8 1 9;p12 9 1 9;p11 9 1 9;p8 7 1 9;c12 9 1;", "sharing(0) = 5; sharing(2) = 3");
         });
         in("the one with the greatest pressure becomes active again", () ->
             says("p12 13 1 9;p5 12 5 9;p5 6 2 9;p5 13 1 9;p6 8 8 9;p11 11 6 9;p6 10 5 9;c5 12 11;",
