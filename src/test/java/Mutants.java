@@ -8,6 +8,7 @@ import java.util.concurrent.TimeUnit;
 import java.util.regex.Matcher;
 import java.util.regex.Pattern;
 import java.util.stream.Collectors;
+import java.util.stream.Stream;
 import javax.tools.ToolProvider;
 
 /**
@@ -77,15 +78,24 @@ public final class Mutants {
             Path source = Files.writeString(folder.resolve("PileShares.java"), String.join("\n", changed));
             boolean compiles = ToolProvider.getSystemJavaCompiler().run(null, OutputStream.nullOutputStream(), OutputStream.nullOutputStream(),
                     "-d", folder.toString(), source.toString()) == 0;
-            for (String name : names) {
-                if (!compiles || !passes(folder, tests, name)) {
-                    return true;
-                }
+            boolean seen = !compiles;
+            for (int i = 0; i < names.size() && !seen; i++) {
+                seen = !passes(folder, tests, names.get(i));
             }
-            return false;
+            remove(folder);
+            return seen;
         } catch (IOException e) {
             throw new IllegalStateException(e);
         }
+    }
+
+    private static void remove(Path folder) throws IOException {
+        try (Stream<Path> inside = Files.list(folder)) {
+            for (Path file : inside.collect(Collectors.toList())) {
+                Files.delete(file);
+            }
+        }
+        Files.delete(folder);
     }
 
     private static boolean passes(Path folder, Path tests, String name) throws IOException {
