@@ -5,6 +5,8 @@ public final class HuntSentencesTest {
     /** A triangle at the first places of all; its only places are those of its piles. */
     private static final String CORNER = "p0 0 1 9;p0 1 1 9;p1 0 1 9;";
     private static final String ENDLESS = "p14 18 3 10;p10 13 3 10;p6 12 3 10;p3 12 1 10;p15 2 2 10;p10 11 2 10;";
+    /** Eight piles, so far apart that each place is a spot. */
+    private static final String WIDE = "p0 0 1 9;p18 0 1 9;p0 18 1 9;p18 18 1 9;p9 9 9 9;p9 0 9 9;p9 18 9 9;p14 9 1 9;";
     private static final String SIX_SIGHTS = "sees(0, 0) = 1; sees(1, 0) = 2; sees(2, 0) = 3; sees(3, 999) = 4; sees(0, 0) = 5;"
             + "sees(0, 1) = 6;";
 
@@ -90,6 +92,7 @@ public final class HuntSentencesTest {
             // (0, 9) is before (1, -9)
             says("p10 0 1 1;p9 18 1 1;p10 1 1 1;", "spots(0) = 3; spots(1) = 189");
             says("p0 0 1 9;p0 18 1 9;p18 0 1 9;", "spots(0) = 190; spots(1) = 0");
+            says(WIDE, "spots(0) = 361; spots(1) = 0");
         });
         Sentences.sentence(29, "if only the load h stood there (no other loads, no wind)", () ->
             says(SQUARE + "c18 18 99;c18 18 99;w198 198;", "sharing(1) = 0; spots(0) = 49; spots(1) = 120; sees(3, 10); spots(0) = 1;"
@@ -127,6 +130,8 @@ public final class HuntSentencesTest {
             // 11 spots: one of them is pile 0, and the other two piles tell all but two of them apart
             says("p9 10 1 9;p9 9 1 9;p18 9 1 9;", "hunts(99); spots(0) = 11; ask() = 1");
             says(SQUARE, "sees(0, 0); ask() = 3");
+            // of all places, by 8 piles
+            says(WIDE, "count(0) = 8; ask() = 5; hunts(99); ask() = 5; loses(5); ask() = 0");
         });
         Sentences.sentence(30, "of several the one with the lowest number", () -> {
             says(SQUARE, "ask() = 0; loses(0); ask() = 1");

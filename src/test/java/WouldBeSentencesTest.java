@@ -129,6 +129,11 @@ public final class WouldBeSentencesTest {
             says("p6 6 1 10;p12 6 1 9;p6 12 1 9;p12 12 1 10;c9 9 40;", "key() = 0");
             says("p6 6 1 9;p12 6 1 10;p6 12 1 10;p12 12 1 9;c9 9 40;", "key() = 1");
             says("p6 6 1 98;p12 6 1 99;p6 12 1 99;p12 12 1 98;c9 9 40;", "key() = 1; loses(1); key() = 0");
+            // uses that differ little: fractions with small rests, and whole ones
+            says("p10 10 1 1;p9 10 1 14;p11 10 1 17;p11 9 1 7;p9 9 1 19;c10 10 16;", "key() = 1");
+            says("p11 9 1 12;p9 9 1 18;p9 11 1 19;p10 10 1 6;p11 10 1 3;c10 10 3;", "key() = 2");
+            says("p9 9 1 4;p9 10 1 4;p10 9 1 4;p9 11 1 1;p11 11 1 4;c9 10 1;", "key() = 1");
+            says("p10 10 1 6;p9 10 1 5;p11 10 1 4;p11 9 1 2;p11 11 1 18;c10 10 6;c11 10 9;", "key() = 2");
         });
     }
 
@@ -173,6 +178,11 @@ public final class WouldBeSentencesTest {
         Sentences.sentence(24, "the distribution to all intact piles is settled and its greatest use is smallest", () -> {
             // under the load it takes the most off the others; a weak one is best far off
             says(SQUARE + "c9 9 40;", "extra(4, 99) = 180; extra(4, 1) = 0");
+            // uses that differ little: fractions with small rests, and whole ones
+            says("p9 9 1 1;p9 10 1 3;p10 10 1 1;c9 9 10;c10 9 6;", "extra(1, 5) = 192");
+            says("p10 9 1 1;p10 10 1 9;p9 9 1 8;c9 9 17;c10 10 9;c10 10 24;c10 9 10;", "extra(1, 15) = 219");
+            says("p9 10 1 6;p10 9 1 4;p10 10 1 9;c9 10 7;c9 10 3;", "extra(1, 10) = 125");
+            says("p9 10 1 1;p9 9 1 1;p10 10 1 1;c9 10 5;c9 10 11;c10 9 14;c9 9 5;", "extra(1, 1) = 199");
             // at (1, 3) it would not be settled in 40 rounds
             says(ENDLESS, "drives(1, 3, 9, 10) = 6; sharing(0) = 40; undo(); drives(-5, 3, 9, 10) = 6; sharing(0) = 2");
         });
