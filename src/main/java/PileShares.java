@@ -83,7 +83,7 @@ public final class PileShares {
         if (now.piles >= PILES) {
             return FULL;
         }
-        record();
+        recordAction();
         now.addPile(x, y, stiff, can);
         return now.piles - 1;
     }
@@ -95,7 +95,7 @@ public final class PileShares {
         if (!now.isIntact(p)) {
             return STATE;
         }
-        record();
+        recordAction();
         now.intact &= ~(1 << p);
         return Integer.bitCount(now.intact);
     }
@@ -107,7 +107,7 @@ public final class PileShares {
         if (now.isIntact(p)) {
             return STATE;
         }
-        record();
+        recordAction();
         now.intact |= 1 << p;
         return Integer.bitCount(now.intact);
     }
@@ -120,7 +120,7 @@ public final class PileShares {
         if (before == load) {
             return STATE;
         }
-        record();
+        recordAction();
         now.load[c] = load;
         return before;
     }
@@ -132,7 +132,7 @@ public final class PileShares {
         if (now.columnX[c] == x && now.columnY[c] == y) {
             return STATE;
         }
-        record();
+        recordAction();
         now.columnX[c] = x;
         now.columnY[c] = y;
         return 1;
@@ -145,7 +145,7 @@ public final class PileShares {
         if (now.windX == mx && now.windY == my) {
             return STATE;
         }
-        record();
+        recordAction();
         now.windX = mx;
         now.windY = my;
         return 1;
@@ -522,7 +522,7 @@ public final class PileShares {
     // ---- the parts of the calls above
 
     /** Is called before each action; the oldest recorded one makes room if there are as many as are allowed. */
-    private void record() {
+    private void recordAction() {
         if (recorded >= ACTIONS) {
             Structure oldest = past[0];
             for (int i = 1; i < ACTIONS; i++) {

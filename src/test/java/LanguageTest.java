@@ -4,12 +4,17 @@ import java.lang.reflect.Method;
 import java.lang.reflect.Modifier;
 import java.nio.file.Files;
 import java.nio.file.Path;
+import java.util.ArrayDeque;
 import java.util.Arrays;
+import java.util.Deque;
 import java.util.List;
+import java.util.Map;
 import java.util.Set;
+import java.util.TreeMap;
 import java.util.TreeSet;
 import java.util.regex.Matcher;
 import java.util.regex.Pattern;
+import java.util.stream.Stream;
 
 /** The face of the class, and the rules of LANGUAGE.md that its text and its members show. Runs in the project's folder. */
 public final class LanguageTest {
@@ -25,7 +30,10 @@ public final class LanguageTest {
             "long NOT");
     private static final List<String> BANNED = List.of("throw", "throws", "try", "catch", "finally", "synchronized",
             "assert", "native", "volatile", "transient", "Object", "System(?!\\.arraycopy)", "\\w+Exact", "double",
-            "float", "->", "::", "@\\w+", "equals", "hashCode", "toString", "static \\{", "protected", "yield", "goto");
+            "float", "->", "::", "@\\w+", "equals", "hashCode", "toString", "static \\{", "protected", "yield", "goto",
+            // words of newer Java that would be allowed as names, but are not read as names everywhere
+            "record", "var", "sealed", "permits");
+    private static final int DEEPEST = 8;
 
     private static int wrong = 0;
 
@@ -49,6 +57,7 @@ public final class LanguageTest {
         rule(11, inside.length + 1 <= 12, "more than twelve classes");
         text(source);
         lengths(source);
+        depths(source);
         System.out.println(wrong == 0 ? "the rules that can be seen are kept" : wrong + " rules broken");
         if (wrong != 0) {
             System.exit(1);
@@ -152,5 +161,44 @@ public final class LanguageTest {
                 rule(11, end - i < 60, "a method of " + (end - i) + " lines at line " + (i + 1));
             }
         }
+    }
+
+    /** By the names alone: methods of one name count as one, so that no chain of calls is longer than what is found. */
+    private static void depths(String source) {
+        Map<String, String> bodies = new TreeMap<>();
+        Matcher methods = Pattern.compile("(?m)^( {4}| {8})(?=\\w)[\\w ]+ (\\w+)\\([^()=]*\\) \\{\n((?s:.*?))\n\\1\\}$")
+                .matcher(source);
+        while (methods.find()) {
+            bodies.merge(methods.group(2), methods.group(3), String::concat);
+        }
+        rule(0, bodies.keySet().containsAll(methodNames()), "not all methods are found in the text: " + bodies.keySet());
+        for (String name : bodies.keySet()) {
+            depthBelow(name, bodies, new ArrayDeque<>());
+        }
+    }
+
+    private static Set<String> methodNames() {
+        Set<String> names = new TreeSet<>();
+        Class<?> type = PileShares.class;
+        Stream.concat(Stream.of(type), Stream.of(type.getDeclaredClasses()))
+                .flatMap(c -> Stream.of(c.getDeclaredMethods())).forEach(m -> names.add(m.getName()));
+        return names;
+    }
+
+    private static void depthBelow(String name, Map<String, String> bodies, Deque<String> open) {
+        boolean again = open.contains(name);
+        rule(8, !again, "calls itself: " + open + " " + name);
+        if (again) {
+            return;
+        }
+        open.addLast(name);
+        rule(11, open.size() <= DEEPEST, "deep calls: " + open);
+        Matcher calls = Pattern.compile("\\b(\\w+)\\(").matcher(bodies.get(name));
+        while (calls.find()) {
+            if (bodies.containsKey(calls.group(1))) {
+                depthBelow(calls.group(1), bodies, open);
+            }
+        }
+        open.removeLast();
     }
 }
