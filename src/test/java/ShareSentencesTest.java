@@ -180,6 +180,11 @@ public final class ShareSentencesTest {
                     + "loses(6); sharing(0) = 40");
             // a pile less ends it too
             Sentences.says(cap, "without(2, 0) = 9; without(2, 1) = 14; loses(2); sharing(1) = 1");
+            // every sixth round all piles are active again, and pile 0 is the last of them to come back
+            says("p6 13 9 9;p5 11 4 9;p0 18 5 9;p5 10 6 9;p15 18 1 9;p6 11 1 9;c9 12 10;w121 131;",
+                    "sharing(0) = 40; sharing(1) = 0; sharing(2) = NONE; most(0) = NONE");
+            says("p8 13 7 9;p10 13 1 9;p15 11 6 9;p4 18 7 9;p18 10 9 9;p4 1 4 9;c16 10 98;w139 156;",
+                    "sharing(0) = 40; sharing(1) = 0; sharing(2) = NONE; most(0) = NONE");
         });
         in("4. Otherwise the distribution is settled, with the shares and pressures of this round.", () -> {
             // many rounds, but not too many
